@@ -879,12 +879,11 @@ public final class Statewarden {
       return slot;
     }
 
-    int add(State state, int parent, int way) {
+    int add(long code, int values, int parent, int way) {
       int number = count;
-      long code = state.pack();
       slots[slotFor(code)] = number + 1;
       codes[number] = code;
-      packedValues[number] = state.packValues();
+      packedValues[number] = values;
       parents[number] = parent;
       ways[number] = way;
       depths[number] = parent == NONE ? 0 : depths[parent] + 1;
@@ -950,7 +949,7 @@ public final class Statewarden {
       graph.clear();
       findKin();
       next.goToStart();
-      find(NONE, NONE);
+      find(next.pack(), NONE, NONE);
     }
 
     private void findKin() {
@@ -1044,9 +1043,10 @@ public final class Statewarden {
       }
       madeCount++;
       goBehind(move);
-      int number = found.numberFor(next.pack());
+      long code = next.pack();
+      int number = found.numberFor(code);
       if (number == NONE) {
-        number = find(from, move);
+        number = find(code, from, move);
       }
       if (mode == 'a') {
         graph.addEdge(number, Moves.doersOf(move));
@@ -1060,8 +1060,9 @@ public final class Statewarden {
       next.exchangeToLeast(kin);
     }
 
-    private int find(int from, int move) {
-      int number = found.add(next, from, move);
+    /** Finds 'next', whose code is told. */
+    private int find(long code, int from, int move) {
+      int number = found.add(code, next.packValues(), from, move);
       if (program.breaksInvariant(next)) {
         endWith('i', number);
       }
