@@ -917,7 +917,8 @@ public final class Statewarden {
     private final State next;
     /** In the mode 's' 1 for each two processes that are alike. */
     private final int[] kin = new int[MOST_PROCESSES * MOST_PROCESSES];
-    private final int[] trace = new int[MOST_STATES + 1];
+    /** The moves of the trace; a search finds 2000 states, so there is one less at most. */
+    private final int[] trace = new int[MOST_STATES];
     private int traceCount;
     private boolean isOn;
     private char mode;

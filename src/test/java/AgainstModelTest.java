@@ -83,14 +83,19 @@ public final class AgainstModelTest {
       ask("addChannel", random.nextInt(3));
       channels++;
     }
-    int places = shape == 7 ? 12 : 1 + random.nextInt(4);
+    int places = shape == 7 ? 12 : shape == 3 ? 2 + random.nextInt(2) : 1 + random.nextInt(4);
     boolean areCopies = random.nextInt(3) == 0;
-    int steps = shape == 7 ? 14 : 1 + random.nextInt(6);
+    int steps = shape == 7 ? 14 : shape == 3 ? 3 : 1 + random.nextInt(6);
     List<Object[]> laid = new ArrayList<>();
     for (int process = 0; process < processes; process++) {
       for (int number = 0; number < steps; number++) {
+        boolean isRing = (shape == 3 || shape == 4) && number < places;
         boolean isCopy = areCopies && process > 0 && random.nextInt(40) != 0;
         Object[] step = isCopy ? shifted(laid.get(number), process) : step(process, places, shape);
+        if (isRing) {
+          step[1] = number;
+          step[2] = (number + 1) % places;
+        }
         if (process == 0) {
           laid.add(step);
         }
@@ -122,6 +127,9 @@ public final class AgainstModelTest {
 
   private Object[] step(int process, int places, int shape) {
     String kinds = channels > 0 ? "ksi=!wrwr" : "ksi=!";
+    if (shape == 3 || shape == 4) {
+      kinds = shape == 4 ? "ksssi=!" : channels > 0 ? "sssssiiwr" : "ssi";
+    }
     char kind = random.nextInt(60) == 0 ? 'a' : kinds.charAt(random.nextInt(kinds.length()));
     if (shape == 6 && random.nextInt(2) == 0) {
       kind = 'i';
@@ -257,6 +265,11 @@ public final class AgainstModelTest {
       int variable = random.nextInt(11) - 1;
       int value = random.nextInt(12) == 0 ? random.nextInt(6) - 1 : random.nextInt(4);
       int other = random.nextInt(10) == 0 ? random.nextInt(11) - 1 : random.nextInt(9);
+      if (verdict.length() == 1 && random.nextInt(4) != 0) {
+        variable = random.nextInt(3 + 2 * processes);
+        value = program.variableIn(random.nextInt(program.states()), variable);
+      }
+      answer("recursByTaking", 1 + random.nextInt(8), random.nextInt(4));
       String fair = answer("recurs", variable, value, true);
       String any = answer("recurs", variable, value, false);
       if (!fair.equals(any)) {

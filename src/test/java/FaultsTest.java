@@ -22,6 +22,7 @@ public final class FaultsTest {
     whichFaultIsFirst();
     leadersOfTwo();
     shortest();
+    longest();
     traceInModeS();
     traceInModeP();
     traceInModeH();
@@ -273,6 +274,44 @@ public final class FaultsTest {
     x.addStep(1, 4, 3, 's', 0, 1);
     x.addInvariant(0, 1);
     due("the shortest run", x, 'a', 'i', 1, 3, 1, 4);
+  }
+
+  /** One way, on which five variables are counted up; its state 1999 breaks the invariant. */
+  private static void longest() {
+    Statewarden x = with(1);
+    int[] counters = {3, 4, 0, 1, 2};
+    for (int place = 0; place < 5; place++) {
+      x.addStep(0, place, 5 + place, 'i', counters[place], 1);
+      x.addStep(0, 5 + place, 0, '!', counters[place], 0);
+      if (place < 4) {
+        x.addStep(0, 5 + place, place + 1, '=', counters[place], 0);
+      }
+    }
+    x.setStart(3, 2);
+    x.setStart(0, 1);
+    x.begin('a');
+    for (int turn = 0; turn < 5; turn++) {
+      x.search(500);
+    }
+    Check.same("without an invariant", x.verdict(), '?');
+    counts(x, 2000, 1999, 1999);
+    x.addInvariant(2, 3);
+    x.begin('a');
+    for (int turn = 0; turn < 5; turn++) {
+      x.search(500);
+    }
+    Check.same("fault", x.fault(), 'i');
+    counts(x, 2000, 1999, 1999);
+    Check.same("traceLength", x.traceLength(), 1999);
+    Check.same("the last process", x.traceProcess(1998), 0);
+    Check.same("the last step", x.traceStep(1998), 12);
+    Check.same("the step before", x.traceStep(1997), 11);
+    Check.same("the first step", x.traceStep(0), 0);
+    Check.same("the second step", x.traceStep(1), 1);
+    Check.fails("behind the last step", INDEX, () -> x.traceStep(1999));
+    Check.same("replays", x.replays(), true);
+    Check.same("isSound", x.isSound(), true);
+    Check.same("replays once more", x.replays(), true);
   }
 
   private static void traceInModeS() {

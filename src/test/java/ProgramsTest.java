@@ -267,6 +267,13 @@ public final class ProgramsTest {
     }
     Check.same("two without steps", with(2).areAlike(0, 1), true);
     Check.same("the same one", with(1).areAlike(0, 0), true);
+    for (int process = 0; process < 3; process++) {
+      for (int number = 9; number < 14; number++) {
+        x.addStep(process, 9, 9, 'i', 4 + 2 * process, number % 4);
+      }
+    }
+    Check.same("with all the steps there can be", x.areAlike(2, 1), true);
+    Check.same("with all the steps there can be", x.areAlike(0, 2), true);
     for (int wrong : new int[] {-1, 3, Integer.MAX_VALUE, Integer.MIN_VALUE}) {
       Check.fails("process " + wrong, INDEX, () -> x.areAlike(wrong, 0));
       Check.fails("other " + wrong, INDEX, () -> x.areAlike(0, wrong));

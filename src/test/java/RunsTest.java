@@ -50,6 +50,11 @@ public final class RunsTest {
     Check.same("all searched", x.verdict(), 'n');
   }
 
+  private static void recursByTaking(Statewarden x, int variable, int value, boolean due) {
+    String what = "by taking alone, again and again " + variable + " is " + value;
+    Check.same(what, x.recursByTaking(variable, value), due);
+  }
+
   private static void recurs(Statewarden x, int variable, int value, boolean any, boolean fair) {
     String what = "again and again " + variable + " is " + value;
     Check.same(what, x.recurs(variable, value, false), any);
@@ -182,6 +187,11 @@ public final class RunsTest {
     follows(x, 3, 0, 3, 1, true, true);
     follows(x, 3, 1, 3, 2, false, false);
     Check.same("components", x.components(), 2);
+    recursByTaking(x, 4, 0, true);
+    recursByTaking(x, 3, 2, false);
+    recursByTaking(x, 4, 0, true);
+    recursByTaking(x, 4, 1, false);
+    recursByTaking(x, 4, 0, true);
   }
 
   private static void fairnessOfOneThatCanAlways() {
@@ -255,6 +265,20 @@ public final class RunsTest {
     x.setMarks(0, 0, true, false);
     searchAll(x);
     comes(x, 0, 1, false, true);
+    // Once more, as what one search told of its states must not be left for the next.
+    x.setMarks(0, 0, true, true);
+    searchAll(x);
+    comes(x, 0, 1, false, false);
+    Statewarden y = with(2);
+    y.addStep(0, 0, 1, 'k', 0, 0);
+    y.addStep(0, 1, 1, 'k', 0, 0);
+    y.addStep(1, 0, 1, 's', 0, 1);
+    searchAll(y);
+    comes(y, 0, 1, false, true);
+    y.setMarks(0, 0, true, true);
+    y.setMarks(0, 1, true, true);
+    searchAll(y);
+    comes(y, 0, 1, false, false);
   }
 
   private static void fairnessOfEachAloneIsNotEnough() {

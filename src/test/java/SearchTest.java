@@ -20,6 +20,8 @@ public final class SearchTest {
     codes();
     whatStepsDo();
     whatChannelsDo();
+    channelsAreKept();
+    startsAreMadeAnew();
     orderOfMoves();
     handoversNeedTwo();
     quietLocations();
@@ -290,6 +292,56 @@ public final class SearchTest {
           Check.row(row[3], row[4], row[5]),
           Check.row(row[6], row[7], row[8], row[9], row[10], row[11])));
       Check.same("moves of " + state, x.moves(state), state == due.length - 1 ? 0 : 1);
+    }
+  }
+
+  private static void channelsAreKept() {
+    Statewarden x = with(2);
+    x.addChannel(2);
+    x.addChannel(2);
+    x.setStart(0, 1);
+    x.addStep(0, 0, 1, 'w', 1, 0);
+    x.addStep(0, 1, 2, 'w', 1, 0);
+    x.addStep(0, 2, 3, 'r', 1, 4);
+    x.addStep(1, 0, 1, 'k', 0, 0);
+    x.begin('a');
+    x.search(500);
+    Check.same("states", x.states(), 8);
+    for (int state = 0; state < 8; state++) {
+      long code = x.codeOf(state);
+      int at = (int) (code / code(1, 0, 0));
+      int own = at == 3 ? 1 : 0;
+      int other = (int) (code / code(0, 1, 0) % 12);
+      int[] held = at == 2 ? Check.row(2, 1, 1) : at == 0 ? Check.row(0, 0, 0) : Check.row(1, 1, 0);
+      Check.same("state " + state, code, Check.code(
+          Check.row(at, 0, own, other, 0, 0, 0, 0, 0), Check.row(1, 0, 0),
+          Check.row(0, 0, 0, held[0], held[1], held[2])));
+    }
+  }
+
+  private static void startsAreMadeAnew() {
+    Statewarden x = with(1);
+    x.addChannel(2);
+    x.setStart(3, 3);
+    x.setStart(0, 2);
+    x.addStep(0, 0, 5, 'w', 0, 3);
+    x.addStep(0, 5, 6, 'w', 0, 0);
+    x.addStep(0, 6, 7, 's', 3, 0);
+    long due = Check.code(Check.row(0, 3, 0, 0, 0, 0, 0, 0, 0), Check.row(2, 0, 0), new int[6]);
+    for (char mode : new char[] {'a', 'p', 's', 'h'}) {
+      x.begin(mode);
+      Check.same("the start in " + mode, x.codeOf(0), due);
+      x.search(500);
+      Check.same("the end in " + mode, x.codeOf(3),
+          Check.code(Check.row(7, 0, 0, 0, 0, 0, 0, 0, 0), Check.row(2, 0, 0),
+              Check.row(2, 3, 2, 0, 0, 0)));
+    }
+    x.setMarks(0, 7, false, false);
+    x.begin('a');
+    x.search(500);
+    Check.same("a fault where the channel is full", x.fault(), 'd');
+    for (int turn = 0; turn < 3; turn++) {
+      Check.same("its trace begins with an empty one", x.replays(), true);
     }
   }
 
@@ -597,6 +649,14 @@ public final class SearchTest {
     alone("'w'", 1, 'w', 0, 3, Check.row());
     alone("'r' that can't be done", 1, 'r', 0, 3, Check.row());
     alone("an invariant of an own one", 1, 'k', 0, 0, Check.row(4, 1));
+    fullInvariants();
+    Statewarden w = with(2);
+    w.addStep(0, 0, 1, 's', 2, 1);
+    w.addStep(0, 0, 2, 'k', 0, 0);
+    w.addStep(1, 0, 1, 'k', 0, 0);
+    w.begin('p');
+    w.search(1);
+    Check.same("the first step counts too", w.codeOf(1), code(0, 1, 0));
     Statewarden x = with(2);
     x.addStep(0, 0, 1, 'k', 0, 0);
     x.addStep(0, 0, 0, 'k', 0, 0);
@@ -617,6 +677,19 @@ public final class SearchTest {
     Check.same("none but the moves of the state", z.search(1), 2);
     Check.same("by the quiet one", z.codeOf(1), code(0, 1, 0));
     Check.same("both of its moves", z.made(), 2L);
+  }
+
+  private static void fullInvariants() {
+    Statewarden x = chains(2, 1);
+    for (int index = 0; index < 4; index++) {
+      x.addInvariant(index % 3, 3);
+    }
+    for (char mode : new char[] {'a', 'p', 's', 'h'}) {
+      x.begin(mode);
+      x.search(500);
+      Check.same("with all invariants there can be, in " + mode,
+          x.states(), mode == 'a' || mode == 'h' ? 4 : 3);
+    }
   }
 
   private static void modeS() {
