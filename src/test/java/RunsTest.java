@@ -279,6 +279,14 @@ public final class RunsTest {
     y.setMarks(0, 1, true, true);
     searchAll(y);
     comes(y, 0, 1, false, false);
+    Statewarden z = with(2);
+    z.addStep(0, 0, 0, 'k', 0, 0);
+    z.addStep(1, 0, 1, 's', 0, 1);
+    searchAll(z);
+    comes(z, 0, 1, false, true);
+    z.setMarks(0, 0, true, true);
+    searchAll(z);
+    comes(z, 0, 1, false, false);
   }
 
   private static void fairnessOfEachAloneIsNotEnough() {
