@@ -810,7 +810,7 @@ public final class SearchTest {
     Check.same("509 at most", x.states() <= 509, true);
     Check.same("but many", x.states() > 400, true);
     Set<Long> remainders = new HashSet<>();
-    for (int state = 0; state < x.states() && state < 400; state++) {
+    for (int state = 0; state < 400; state++) {
       remainders.add(x.codeOf(state) % 509);
     }
     Check.same("each with a remainder of its own", remainders.size(), 400);

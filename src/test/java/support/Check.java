@@ -2,6 +2,8 @@
 final class Check {
   private static int asked = 0;
   private static int wrong = 0;
+  /** What the answers are about, ahead of each line that is printed. */
+  private static String about = "";
 
   interface Call {
     Object make();
@@ -9,12 +11,28 @@ final class Check {
 
   private Check() {}
 
+  static void about(String what) {
+    about = what;
+  }
+
+  static int asked() {
+    return asked;
+  }
+
+  static int wrong() {
+    return wrong;
+  }
+
   static void same(String what, Object got, Object due) {
     asked++;
     if (!due.equals(got)) {
-      wrong++;
-      System.out.println(what + " answered " + got + ", due is " + due);
+      tell(what + " answered " + got + ", due is " + due);
     }
+  }
+
+  static void tell(String line) {
+    wrong++;
+    System.out.println(about + line);
   }
 
   /** The call throws an exception of exactly this class. */
@@ -27,8 +45,7 @@ final class Check {
       got = e.getClass() == due ? "" : "threw " + e.getClass().getName();
     }
     if (!got.isEmpty()) {
-      wrong++;
-      System.out.println(what + " " + got + ", due is " + due.getName());
+      tell(what + " " + got + ", due is " + due.getName());
     }
   }
 
