@@ -7,7 +7,7 @@ import java.util.Map;
 import java.util.Random;
 import java.util.TreeMap;
 
-/** Promises 1 to 32: runs of calls drawn with fixed seeds, answered by the program and the model. */
+/** Promises 1 to 32: runs of calls with fixed seeds, answered by the program and the model. */
 public final class AgainstModelTest {
   private static final int RUNS = 4000;
   /** What a later call of an object answers is free. */

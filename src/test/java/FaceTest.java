@@ -122,7 +122,8 @@ public final class FaceTest {
     String[] refused = {"->", "::", "\\bfinally\\b", "\\bassert\\b", "\\bsynchronized\\b",
       "\\bpackage\\b", "\\bRandom\\b", "\\bSystem\\.(?!arraycopy)", "\\bThread\\b", "Exact\\(",
       "\\bstatic \\{", "\\bObject\\b", "\\bgetMessage\\b", "\\bhashCode\\b"};
-    Set<String> library = Set.of("ArrayList", "Arrays", "Iterator", "List", "NoSuchElementException");
+    Set<String> library =
+        Set.of("ArrayList", "Arrays", "Iterator", "List", "NoSuchElementException");
     String code = program.replaceAll("(?s)/\\*.*?\\*/", "").replaceAll("//[^\n]*", "");
     for (String word : refused) {
       Check.same("no " + word, Pattern.compile(word).matcher(code).find(), false);

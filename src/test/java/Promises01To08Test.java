@@ -154,8 +154,8 @@ public final class Promises01To08Test {
   }
 
   private static void numbersOfSteps() {
-    Sentences.test("`a`: its first number: a variable, or a channel for 'w' and 'r', and any number for"
-        + " 'k'", () -> {
+    Sentences.test("`a`: its first number: a variable, or a channel for 'w' and 'r', and any number"
+        + " for 'k'", () -> {
       for (char kind : new char[] {'s', 'i', '=', '!', 'a'}) {
         Statewarden x = Make.with(3);
         for (int variable = 0; variable < 3; variable++) {
@@ -185,8 +185,8 @@ public final class Promises01To08Test {
         number++;
       }
     });
-    Sentences.test("`b`: its second number: 0 to 3, or a variable for 'w' and 'r', and any number for"
-        + " 'k'", () -> {
+    Sentences.test("`b`: its second number: 0 to 3, or a variable for 'w' and 'r', and any number"
+        + " for 'k'", () -> {
       for (char kind : new char[] {'s', 'i', '=', '!', 'a'}) {
         Statewarden x = Make.with(1);
         for (int number = 0; number <= 3; number++) {
@@ -367,7 +367,8 @@ public final class Promises01To08Test {
         x.setStart(set, 3);
         x.begin('a');
         for (int variable = 0; variable < 9; variable++) {
-          Check.same("the start of " + variable, x.variableIn(0, variable), variable == set ? 3 : 0);
+          int due = variable == set ? 3 : 0;
+          Check.same("the start of " + variable, x.variableIn(0, variable), due);
         }
       }
     });
@@ -604,7 +605,8 @@ public final class Promises01To08Test {
       x.setMarks(0, 11, true, false);
       Check.same("with the same one", x.areAlike(0, 1), true);
     });
-    Sentences.test("Throws `IndexOutOfBoundsException` if there is no such process, for either", () -> {
+    Sentences.test("Throws `IndexOutOfBoundsException` if there is no such process, for"
+        + " either", () -> {
       for (int process : new int[] {Integer.MIN_VALUE, -1, 3, Integer.MAX_VALUE}) {
         Look.refused("the process " + process, INDEX, Promises01To08Test::laid,
             x -> x.areAlike(process, 2));

@@ -86,6 +86,12 @@ public final class Promises09To18Test {
           y.addInvariant(0, 1);
           y.begin(mode);
           Check.same("like one without another ahead of it", Look.of(x), Look.of(y));
+          Statewarden z = Make.chains(2, 2);
+          Make.searchAll(z, before);
+          z.begin(mode);
+          Statewarden w = Make.chains(2, 2);
+          w.begin(mode);
+          Check.same("without a fault, and with answers on runs", Look.of(z), Look.of(w));
         }
       }
     });
@@ -111,16 +117,16 @@ public final class Promises09To18Test {
 
   private static void beginRefuses() {
     Sentences.test("Throws `IllegalArgumentException` if there is no such mode", () -> {
-      for (char mode : new char[] {0, 'A', 'P', 'S', 'H', 'b', 'n', 'o', 'q', 'r', 't', 'g', 'i', '?',
-        (char) 65535}) {
+      for (char mode : new char[] {0, 'A', 'P', 'S', 'H', 'b', 'n', 'o', 'q', 'r', 't', 'g', 'i',
+        '?', (char) 65535}) {
         Look.refused("the mode " + (int) mode, ARGUMENT, withoutSearch(false),
             x -> x.begin(mode));
         Look.refused("a search is on its way", ARGUMENT, () -> onItsWay('p'),
             x -> x.begin(mode));
       }
     });
-    Sentences.test("Throws `UnsupportedOperationException` if the mode is 's', and an invariant is about"
-        + " an own variable of a process that is alike another one", () -> {
+    Sentences.test("Throws `UnsupportedOperationException` if the mode is 's', and an invariant is"
+        + " about an own variable of a process that is alike another one", () -> {
       for (int variable = 0; variable < 9; variable++) {
         for (int odd = 0; odd <= 3; odd++) {
           int watched = variable;
@@ -210,6 +216,8 @@ public final class Promises09To18Test {
       x.search(2);
       Check.same("no more than that", x.goneOn(), 27);
       Statewarden y = Make.longWay(2);
+      Make.searchAll(y, 'a');
+      Check.same("with 2000 states", y.goneOn(), 1999);
       for (char mode : Make.MODES) {
         Make.searchAll(y, mode);
         int goneOn = y.goneOn();
@@ -341,7 +349,8 @@ public final class Promises09To18Test {
       Check.same("asserted behind a move", x.goneOn(), 2);
       Check.same("broken at the start, from which it has not gone on", broken().goneOn(), 0);
     });
-    Sentences.test("and that from which a state with a broken invariant was reached, included.", () -> {
+    Sentences.test("and that from which a state with a broken invariant was reached,"
+        + " included.", () -> {
       Statewarden x = Make.chains(1, 1);
       x.addStep(0, 0, 2, 's', 0, 1);
       x.addStep(0, 1, 3, 's', 0, 2);
@@ -560,11 +569,11 @@ public final class Promises09To18Test {
       for (int processes = 0; processes <= 3; processes++) {
         Statewarden x = Make.with(processes);
         for (int variable = 0; variable <= 8; variable++) {
-          x.setStart(variable, (variable + 1) % 4);
+          x.setStart(variable, Make.STARTS[variable]);
         }
         x.begin('a');
         for (int variable = 0; variable <= 8; variable++) {
-          Check.same("the variable " + variable, x.variableIn(0, variable), (variable + 1) % 4);
+          Check.same("the variable " + variable, x.variableIn(0, variable), Make.STARTS[variable]);
         }
       }
     });

@@ -264,8 +264,8 @@ public final class Promises19To23Test {
 
   private static void replays() {
     Sentences.of("Promise 23: replays");
-    Sentences.test("Tells whether the trace replays: from the start, each move in turn is a move of the"
-        + " state at hand, and the fault is there at the end", () -> {
+    Sentences.test("Tells whether the trace replays: from the start, each move in turn is a move of"
+        + " the state at hand, and the fault is there at the end", () -> {
       for (int moves = 0; moves < 12; moves++) {
         Check.same("stuck behind " + moves, stuck(moves).replays(), true);
       }
@@ -278,8 +278,8 @@ public final class Promises19To23Test {
       Check.same("once more", x.replays(), true);
       Check.same("nothing is changed", x.traceLength(), 1999);
     });
-    Sentences.test("in the mode 's', the state at hand is replaced by the one with the least code behind"
-        + " each move.", () -> {
+    Sentences.test("in the mode 's', the state at hand is replaced by the one with the least code"
+        + " behind each move.", () -> {
       Statewarden x = Make.with(3);
       for (int process = 0; process < 3; process++) {
         x.addStep(process, 0, 1, 's', 3 + 2 * process, 1);

@@ -105,12 +105,12 @@ public final class Promises24To29Test {
   private static void allVariables(boolean isOther, Question question) {
     Statewarden x = Make.ending(3);
     for (int variable = 0; variable < 9; variable++) {
-      x.setStart(variable, (variable + 1) % 4);
+      x.setStart(variable, Make.STARTS[variable]);
     }
     searched(x);
     for (int variable = 0; variable < 9; variable++) {
       for (int value = 0; value < 4; value++) {
-        boolean is = value == (variable + 1) % 4;
+        boolean is = value == Make.STARTS[variable];
         Check.same(variable + " is " + value, question.ask(x, variable, value), is != isOther);
       }
     }
@@ -130,6 +130,11 @@ public final class Promises24To29Test {
       y.addStep(0, 0, 1, 's', 0, 1);
       searched(y);
       Check.same("on one run alone", y.recurs(0, 1, false), false);
+      Statewarden z = Make.ending(1);
+      z.addStep(0, 0, 1, 's', 0, 1);
+      z.addStep(0, 1, 2, 's', 0, 0);
+      searched(z);
+      Check.same("once, and not again", z.recurs(0, 1, false), false);
     });
     Sentences.test("found by components: sets of states that reach one another.", () -> {
       Statewarden x = Make.ending(1);
@@ -183,8 +188,8 @@ public final class Promises24To29Test {
         }
       }
     });
-    Sentences.test("by taking away, again and again, states in which the variable is not the number and"
-        + " from which no move leads to such a state that is left", () -> {
+    Sentences.test("by taking away, again and again, states in which the variable is not the number"
+        + " and from which no move leads to such a state that is left", () -> {
       Statewarden x = Make.chains(1, 10);
       x.addStep(0, 10, 11, 's', 0, 1);
       searched(x);
@@ -270,8 +275,8 @@ public final class Promises24To29Test {
 
   private static void follows() {
     Sentences.of("Promise 27: follows");
-    Sentences.test("Tells whether, on all runs, whenever a variable is a number, another one is a number"
-        + " then or later.", () -> {
+    Sentences.test("Tells whether, on all runs, whenever a variable is a number, another one is a"
+        + " number then or later.", () -> {
       Statewarden x = Make.ending(1);
       x.addStep(0, 0, 1, 's', 0, 1);
       x.addStep(0, 1, 2, 's', 1, 1);
@@ -296,7 +301,7 @@ public final class Promises24To29Test {
     Sentences.test(VARIABLE, () -> allVariables(true, (x, v, n) -> x.follows(v, n, 8, 0, false)));
     Sentences.test(VALUE, () -> allVariables(true, (x, v, n) -> x.follows(v, n, 0, 3, true)));
     Sentences.test("`other`: the other variable, 0 to 8",
-        () -> allVariables(false, (x, v, n) -> x.follows(8, 1, v, n, false)));
+        () -> allVariables(false, (x, v, n) -> x.follows(8, 3, v, n, false)));
     Sentences.test("`otherValue`: its number, 0 to 3",
         () -> allVariables(false, (x, v, n) -> x.follows(0, 1, v, n, true)));
     Sentences.test(IS_FAIR, () -> {
@@ -310,6 +315,8 @@ public final class Promises24To29Test {
       for (int value = 0; value < 3; value++) {
         Check.same("each time round", x.follows(3, value, 3, (value + 1) % 3, false), true);
         Check.same("the same", x.follows(3, value, 3, value, false), true);
+        Check.same("at no time at all", x.follows(3, 3, 3, value, false), true);
+        Check.same("never what it is at no time", x.follows(3, value, 3, 3, false), false);
       }
     });
   }
@@ -329,8 +336,8 @@ public final class Promises24To29Test {
 
   private static void distance() {
     Sentences.of("Promise 28: distance");
-    Sentences.test("Returns the least number of moves from the start to a state in which a variable is a"
-        + " number.", () -> {
+    Sentences.test("Returns the least number of moves from the start to a state in which a variable"
+        + " is a number.", () -> {
       Statewarden x = Make.ending(2);
       for (int location = 0; location < 4; location++) {
         x.addStep(0, location, location + 1, location == 3 ? 's' : 'k', 0, 1);
@@ -382,14 +389,22 @@ public final class Promises24To29Test {
       Look.refused("never", NONE, () -> searched(round()), x -> x.distance(8, 1));
       Look.refused("one state alone", NONE, () -> searched(new Statewarden()),
           x -> x.distance(0, 1));
+      Statewarden x = Make.ending(2);
+      x.addStep(0, 0, 1, 's', 0, 3);
+      x.addStep(1, 0, 0, 'k', 0, 0);
+      searched(x);
+      Check.same("in a state that is found", x.distance(0, 3), 1);
+      x.setMarks(1, 0, true, true);
+      searched(x);
+      Check.fails("which is not found any more", NONE, () -> x.distance(0, 3));
     });
     Sentences.allTested();
   }
 
   private static void components() {
     Sentences.of("Promise 29: components");
-    Sentences.test("Returns the number of components: sets of states that reach one another by moves, as"
-        + " many states as there can be", () -> {
+    Sentences.test("Returns the number of components: sets of states that reach one another by"
+        + " moves, as many states as there can be", () -> {
       Statewarden x = searched(round());
       Check.same("two rings", x.components(), 2);
       Statewarden y = Make.ending(1);
@@ -409,8 +424,17 @@ public final class Promises24To29Test {
       z.addStep(0, 4, 5, 'k', 0, 0);
       searched(z);
       Check.same("two rings that meet are one", z.components(), 3);
+      Statewarden w = Make.ending(1);
+      w.addStep(0, 0, 1, 'k', 0, 0);
+      w.addStep(0, 0, 2, 'k', 0, 0);
+      w.addStep(0, 2, 1, 'k', 0, 0);
+      w.addStep(0, 1, 3, 'k', 0, 0);
+      w.addStep(0, 3, 1, 'k', 0, 0);
+      searched(w);
+      Check.same("one that reaches another one's ring is not of it", w.components(), 3);
     });
-    Sentences.test("a state that no other one reaches and that it reaches is one by itself.", () -> {
+    Sentences.test("a state that no other one reaches and that it reaches is one by"
+        + " itself.", () -> {
       Check.same("the start alone", searched(new Statewarden()).components(), 1);
       Statewarden x = searched(Make.chains(3, 2));
       Check.same("each by itself", x.components(), 27);

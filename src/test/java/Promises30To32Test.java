@@ -50,9 +50,15 @@ public final class Promises30To32Test {
       Statewarden z = Make.chains(2, 2);
       Make.searchAll(z, 's');
       Check.same("of the states that were found in 's'", z.meanMoves(), 8.0 / 6);
+      Statewarden w = Make.chains(3, 2);
+      w.begin('a');
+      w.search(4);
+      Check.same("states", w.states(), 10);
+      // Three moves while no process is at 2; three of the ten states have one at 2.
+      Check.same("also of those that are not gone on from", w.meanMoves(), 27.0 / 10);
     });
-    Sentences.test("Returns the sum of the numbers divided by the number of states, both converted to"
-        + " double.", () -> {
+    Sentences.test("Returns the sum of the numbers divided by the number of states, both converted"
+        + " to double.", () -> {
       Statewarden x = Make.longWay(1);
       Make.searchAll(x, 'a');
       Check.same("1998 by 1999", x.meanMoves(), (double) 1998 / (double) 1999);
@@ -69,8 +75,8 @@ public final class Promises30To32Test {
 
   private static void newShare() {
     Sentences.of("Promise 31: newShare");
-    Sentences.test("Returns the share of the moves made by the search that reached states which had not"
-        + " been found.", () -> {
+    Sentences.test("Returns the share of the moves made by the search that reached states which had"
+        + " not been found.", () -> {
       Statewarden x = Make.chains(2, 1);
       x.begin('a');
       float[] due = {1.0f, 1.0f, 0.75f, 0.75f, 0.75f};
@@ -83,8 +89,8 @@ public final class Promises30To32Test {
       Make.searchAll(y, 'a');
       Check.same("none", y.newShare(), 0.0f);
     });
-    Sentences.test("Returns the number of states that were found, without the first one, divided by the"
-        + " number of moves made, both converted to float.", () -> {
+    Sentences.test("Returns the number of states that were found, without the first one, divided by"
+        + " the number of moves made, both converted to float.", () -> {
       Statewarden x = Make.longWay(1);
       Make.searchAll(x, 'a');
       Check.same("1998 by 1998", x.newShare(), 1.0f);
@@ -93,6 +99,8 @@ public final class Promises30To32Test {
       Check.same("26 by 54", y.newShare(), (float) 26 / (float) 54);
       Make.searchAll(y, 's');
       Check.same("9 by 20", y.newShare(), (float) 9 / (float) 20);
+      Make.searchAll(y, 'p');
+      Check.same("6 by 6, as the others were not made", y.newShare(), 1.0f);
       Statewarden z = Make.ending(1);
       for (int number = 0; number < 7; number++) {
         z.addStep(0, 0, number % 3, 'k', 0, 0);

@@ -140,8 +140,8 @@ public final class TermsOfProgramsTest {
         Check.fails("no -1", ARGUMENT, () -> x.setStart(one, -1));
       }
     });
-    Sentences.test("0 to 2 are shared, 3 and 4 are the own ones of the process 0, 5 and 6 those of the"
-        + " process 1, 7 and 8 those of the process 2", () -> {
+    Sentences.test("0 to 2 are shared, 3 and 4 are the own ones of the process 0, 5 and 6 those of"
+        + " the process 1, 7 and 8 those of the process 2", () -> {
       for (int process = 0; process < 3; process++) {
         for (int variable = 0; variable < 9; variable++) {
           Statewarden x = Make.with(3);
@@ -150,7 +150,8 @@ public final class TermsOfProgramsTest {
           if (asked < 3 || asked == 3 + 2 * one || asked == 4 + 2 * one) {
             Check.same(one + " uses " + asked, x.addStep(one, 0, 0, 's', asked, 1), 0);
           } else {
-            Check.fails(one + " uses " + asked, ARGUMENT, () -> x.addStep(one, 0, 0, 's', asked, 1));
+            Check.fails(one + " uses " + asked, ARGUMENT,
+                () -> x.addStep(one, 0, 0, 's', asked, 1));
           }
         }
       }
@@ -287,8 +288,8 @@ public final class TermsOfProgramsTest {
         Make.searchAll(x, 'a');
         int state = x.states() - 1;
         Check.same("it is done at " + from, x.variableIn(state, 0), 1);
-        Check.same("and leads on", Make.location(x.reached(from == 0 ? 0 : 1, from == 0 ? 1 : 0), 0),
-            11 - from);
+        long behind = x.reached(from == 0 ? 0 : 1, from == 0 ? 1 : 0);
+        Check.same("and leads on", Make.location(behind, 0), 11 - from);
       }
       Statewarden y = Make.ending(1);
       y.addStep(0, 0, 0, 'k', 0, 0);
@@ -300,8 +301,17 @@ public final class TermsOfProgramsTest {
 
   private static void kindsWithVariables() {
     Sentences.test("'k' nothing", () -> {
-      Statewarden x = behind('k', 3, 2, 3, 1);
-      Check.same("nothing but the location", x.codeOf(1) - x.codeOf(0), Make.at(1, 0, 0));
+      for (int number = 0; number < 4; number++) {
+        Statewarden x = Make.ending(1);
+        x.addChannel(2);
+        for (int variable = 0; variable < 9; variable++) {
+          x.setStart(variable, number);
+        }
+        x.addStep(0, 0, 1, 'w', 0, 0);
+        x.addStep(0, 1, 2, 'k', number, (number + 1) % 4);
+        Make.searchAll(x, 'a');
+        Check.same("nothing but the location", x.codeOf(2) - x.codeOf(1), Make.at(1, 0, 0));
+      }
     });
     Sentences.test("'s' the variable a becomes b", () -> {
       for (int start = 0; start < 4; start++) {
@@ -399,8 +409,8 @@ public final class TermsOfProgramsTest {
         Check.same("the variable stays", x.variableIn(2, 3), 3);
       }
     });
-    Sentences.test("'r' the earliest number of the channel a is taken out, and the variable b becomes"
-        + " it", () -> {
+    Sentences.test("'r' the earliest number of the channel a is taken out, and the variable b"
+        + " becomes it", () -> {
       for (int channel = 0; channel < 2; channel++) {
         Statewarden x = Make.ending(1);
         x.addChannel(2);
@@ -439,8 +449,8 @@ public final class TermsOfProgramsTest {
   }
 
   private static void channelsWithoutRoom() {
-    Sentences.test("For a channel with the room 0, a 'w' of one process and an 'r' of another one are"
-        + " done at once, if both are at their locations", () -> {
+    Sentences.test("For a channel with the room 0, a 'w' of one process and an 'r' of another one"
+        + " are done at once, if both are at their locations", () -> {
       for (int sender = 0; sender < 3; sender++) {
         for (int taker = 0; taker < 3; taker++) {
           Statewarden x = Make.ending(3);
@@ -574,8 +584,8 @@ public final class TermsOfProgramsTest {
   }
 
   private static void orderOfMoves() {
-    Sentences.test("by rising numbers of processes, of their steps from their locations those that can"
-        + " be done", () -> {
+    Sentences.test("by rising numbers of processes, of their steps from their locations those that"
+        + " can be done", () -> {
       Statewarden x = Make.ending(3);
       for (int process = 2; process >= 0; process--) {
         x.addStep(process, 0, 9, 'k', 0, 0);
@@ -695,8 +705,8 @@ public final class TermsOfProgramsTest {
   }
 
   private static void codes() {
-    Sentences.test("for each of the processes 0 to 2, also those that there are not, times 12 plus the"
-        + " location, times 4 plus the first own variable, times 4 plus the second one", () -> {
+    Sentences.test("for each of the processes 0 to 2, also those that there are not, times 12 plus"
+        + " the location, times 4 plus the first own variable, times 4 plus the second one", () -> {
       for (int processes = 0; processes <= 3; processes++) {
         Statewarden x = Make.ending(processes);
         int[] row = new int[9];
@@ -739,8 +749,8 @@ public final class TermsOfProgramsTest {
   }
 
   private static void codesOfChannels() {
-    String words = "then for each of the channels 0 and 1 times 3 plus how many numbers it holds, times"
-        + " 4 plus the first one, times 4 plus the second one, 0 for none.";
+    String words = "then for each of the channels 0 and 1 times 3 plus how many numbers it holds,"
+        + " times 4 plus the first one, times 4 plus the second one, 0 for none.";
     Sentences.test(words, () -> {
       for (int channel = 0; channel < 2; channel++) {
         long weight = channel == 0 ? 48 : 1;

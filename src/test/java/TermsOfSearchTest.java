@@ -51,7 +51,8 @@ public final class TermsOfSearchTest {
   // ---- Faults
 
   private static void faults() {
-    Sentences.test("'i', an invariant is broken: a variable is a number that it must never be", () -> {
+    Sentences.test("'i', an invariant is broken: a variable is a number that it must never"
+        + " be", () -> {
       for (int variable = 0; variable < 9; variable++) {
         for (int number = 0; number < 4; number++) {
           Statewarden x = Make.ending(0);
@@ -76,7 +77,8 @@ public final class TermsOfSearchTest {
       x.addStep(0, 0, 0, 'k', 0, 0);
       Check.same("it is no step of a move", Make.searchAll(x, 'a'), 'n');
     });
-    Sentences.test("'d', a state without moves in which some process is at a location that is no end",
+    Sentences.test("'d', a state without moves in which some process is at a location that is no"
+        + " end",
         () -> {
           for (int ends = 0; ends < 8; ends++) {
             Statewarden x = Make.with(3);
@@ -97,8 +99,8 @@ public final class TermsOfSearchTest {
   // ---- The search
 
   private static void beginning() {
-    Sentences.test("A search has a mode, and begins with the state at the start, which is found then,"
-        + " with the number 0.", () -> {
+    Sentences.test("A search has a mode, and begins with the state at the start, which is found"
+        + " then, with the number 0.", () -> {
       for (char mode : Make.MODES) {
         Statewarden x = Make.ending(1);
         x.addChannel(1);
@@ -151,8 +153,8 @@ public final class TermsOfSearchTest {
         Check.same("of its process", Make.location(x.codeOf(1 + move), move / 2), 5 - move % 2);
       }
     });
-    Sentences.test("each state that is reached and was not found so far is found then, under the next"
-        + " number", () -> {
+    Sentences.test("each state that is reached and was not found so far is found then, under the"
+        + " next number", () -> {
       Statewarden x = Make.ending(2);
       x.addStep(0, 0, 0, 'k', 0, 0);
       x.addStep(0, 0, 1, 'k', 0, 0);
@@ -253,7 +255,8 @@ public final class TermsOfSearchTest {
       counts("nothing more", x, 2, 1, 1);
       Check.same("the fault stays", x.fault(), 'i');
     });
-    Sentences.test("It has also ended when there is no state left from which it has not gone on", () -> {
+    Sentences.test("It has also ended when there is no state left from which it has not gone"
+        + " on", () -> {
       Statewarden x = Make.chains(1, 2);
       x.begin('a');
       x.search(2);
@@ -275,8 +278,8 @@ public final class TermsOfSearchTest {
   }
 
   private static void twoThousandStates() {
-    Sentences.test("or when 2000 states have been found, at once, also in the middle of the moves of a"
-        + " state, from which it has gone on then", () -> {
+    Sentences.test("or when 2000 states have been found, at once, also in the middle of the moves"
+        + " of a state, from which it has gone on then", () -> {
       Statewarden x = fan(0, 5);
       Check.same("in the middle", Make.searchAll(x, 'a'), '?');
       counts("two of five moves", x, 2000, 1998, 1999);
@@ -485,7 +488,8 @@ public final class TermsOfSearchTest {
   }
 
   private static void whatIsAlike() {
-    Sentences.test("two processes are alike if they have the same steps under the same numbers", () -> {
+    Sentences.test("two processes are alike if they have the same steps under the same"
+        + " numbers", () -> {
       Statewarden x = Make.with(2);
       Check.same("no steps", x.areAlike(0, 1), true);
       x.addStep(0, 0, 11, '=', 0, 1);
@@ -559,7 +563,8 @@ public final class TermsOfSearchTest {
 
   private static void modeS() {
     Sentences.test("instead of a state, that one is found which has the least code of all that come"
-        + " from it by exchanging locations and own variables among processes that are alike", () -> {
+        + " from it by exchanging locations and own variables among processes that are"
+        + " alike", () -> {
       Statewarden x = Make.chains(3, 1);
       Make.searchAll(x, 's');
       counts("how many are at 1", x, 4, 4, 3 + 2 + 1);
@@ -604,8 +609,8 @@ public final class TermsOfSearchTest {
   }
 
   private static void modeH() {
-    Sentences.test("In 'h', a state counts as found so far if a state with the same remainder of its"
-        + " code, divided by 509, was found.", () -> {
+    Sentences.test("In 'h', a state counts as found so far if a state with the same remainder of"
+        + " its code, divided by 509, was found.", () -> {
       Statewarden x = remainders(7);
       Check.same("in 'a'", Make.searchAll(x, 'a'), 'n');
       counts("in 'a'", x, 4, 4, 3);
@@ -773,7 +778,8 @@ public final class TermsOfSearchTest {
   }
 
   private static void whoCanDoAStep() {
-    Sentences.test("A process can do a step in a state if a move of this state has a step of it.", () -> {
+    Sentences.test("A process can do a step in a state if a move of this state has a step of"
+        + " it.", () -> {
       Statewarden x = Make.ending(2);
       x.addChannel(0);
       x.addStep(0, 0, 0, 'k', 0, 0);
@@ -790,58 +796,184 @@ public final class TermsOfSearchTest {
       z.addStep(0, 0, 0, 'k', 0, 0);
       z.addStep(1, 0, 1, '=', 1, 1);
       answers(z, 1, 1, "nnnnn");
+      Statewarden w = Make.ending(3);
+      w.addStep(0, 0, 0, 'k', 0, 0);
+      w.addStep(1, 0, 1, 's', 0, 1);
+      w.addStep(2, 0, 0, 'k', 0, 0);
+      answers(w, 0, 1, "nnnyy");
     });
   }
 
   // ---- Exceptions
 
+  /** Nothing more can be added to it; its search is on its way, without a fault. */
+  private static Statewarden full() {
+    Statewarden x = Make.chains(3, 2);
+    x.addChannel(0);
+    x.addChannel(2);
+    for (int count = 0; count < 4; count++) {
+      x.addInvariant(0, 3);
+    }
+    for (int number = 2; number < 14; number++) {
+      x.addStep(0, 11, 11, 'k', 0, 0);
+    }
+    x.begin('a');
+    x.search(2);
+    return x;
+  }
+
+  /** The same, with a fault behind the six moves that there are. */
+  private static Statewarden stuck() {
+    Statewarden x = full();
+    x.setMarks(0, 2, false, false);
+    x.setMarks(1, 0, true, true);
+    Make.searchAll(x, 'a');
+    Check.same("it is stuck", x.traceLength(), 6);
+    return x;
+  }
+
+  /** An invariant about an own variable of processes that are alike. */
+  private static Statewarden watched() {
+    Statewarden x = Make.chains(2, 2);
+    x.addInvariant(3, 3);
+    x.begin('p');
+    x.search(1);
+    return x;
+  }
+
+  private static Statewarden ended() {
+    Statewarden x = Make.chains(2, 2);
+    Make.searchAll(x, 'a');
+    return x;
+  }
+
   private static void exceptions() {
     Sentences.test("A method that throws an exception changes nothing.", () -> {
-      Look.Script script = () -> {
-        Statewarden x = Make.chains(3, 2);
-        x.addChannel(0);
-        x.addChannel(2);
-        x.begin('a');
-        x.search(2);
-        return x;
-      };
-      Look.refused("addProcess", STATE, script, Statewarden::addProcess);
-      Look.refused("addStep", ARGUMENT, script, x -> x.addStep(0, 0, 12, 'k', 0, 0));
-      Look.refused("addChannel", STATE, script, x -> x.addChannel(1));
-      Look.refused("setStart", ARGUMENT, script, x -> x.setStart(0, 4));
-      Look.refused("setMarks", ARGUMENT, script, x -> x.setMarks(0, 12, false, false));
-      Look.refused("addInvariant", ARGUMENT, script, x -> x.addInvariant(9, 1));
-      Look.refused("begin", ARGUMENT, script, x -> x.begin('x'));
-      Look.refused("search", ARGUMENT, script, x -> x.search(501));
-      Look.refused("fault", NONE, script, Statewarden::fault);
-      Look.refused("recurs", STATE, script, x -> x.recurs(0, 0, true));
+      refusedWhileLaying();
+      refusedWhileSearching();
+      refusedOfFaultsAndRuns();
     });
-    Sentences.test("If several exceptions of a method apply, the one that is listed first is thrown.",
+    Sentences.test("If several exceptions of a method apply, the one that is listed first is"
+        + " thrown.",
         () -> {
-          Statewarden x = Make.with(3);
-          x.addChannel(1);
-          x.addChannel(1);
-          for (int count = 0; count < 14; count++) {
-            x.addStep(0, 0, 0, 'k', 0, 0);
-          }
-          for (int count = 0; count < 4; count++) {
-            x.addInvariant(0, 3);
-          }
-          Check.fails("addStep", INDEX, () -> x.addStep(3, 12, 0, 'k', 0, 0));
-          Check.fails("addStep", ARGUMENT, () -> x.addStep(0, 12, 0, 'k', 0, 0));
-          Check.fails("addChannel", ARGUMENT, () -> x.addChannel(3));
-          Check.fails("setMarks", INDEX, () -> x.setMarks(3, 12, false, false));
-          Check.fails("addInvariant", ARGUMENT, () -> x.addInvariant(0, 4));
-          Check.fails("search", STATE, () -> x.search(0));
-          Check.fails("variableIn", STATE, () -> x.variableIn(-1, 9));
-          Check.fails("reached", STATE, () -> x.reached(-1, -1));
-          Check.fails("traceStep", STATE, () -> x.traceStep(-1));
-          Check.fails("recurs", ARGUMENT, () -> x.recurs(9, 0, true));
-          Check.fails("distance", ARGUMENT, () -> x.distance(0, 4));
-          x.begin('a');
-          Check.fails("variableIn", INDEX, () -> x.variableIn(1, 9));
-          Check.fails("reached", INDEX, () -> x.reached(1, 42));
-          Check.fails("traceStep", NONE, () -> x.traceStep(-1));
+          orderWithoutSearch();
+          orderWithSearch();
         });
+  }
+
+  private static void refusedWhileLaying() {
+    Look.Script script = TermsOfSearchTest::full;
+    Look.refused("addProcess", STATE, script, Statewarden::addProcess);
+    Look.refused("addStep", INDEX, script, x -> x.addStep(3, 0, 0, 'k', 0, 0));
+    Look.refused("addStep", ARGUMENT, script, x -> x.addStep(1, 0, 12, 'k', 0, 0));
+    Look.refused("addStep", STATE, script, x -> x.addStep(0, 0, 0, 'k', 0, 0));
+    Look.refused("addChannel", ARGUMENT, script, x -> x.addChannel(3));
+    Look.refused("addChannel", STATE, script, x -> x.addChannel(1));
+    Look.refused("setStart", ARGUMENT, script, x -> x.setStart(0, 4));
+    Look.refused("setMarks", INDEX, script, x -> x.setMarks(3, 0, false, false));
+    Look.refused("setMarks", ARGUMENT, script, x -> x.setMarks(0, 12, false, false));
+    Look.refused("addInvariant", ARGUMENT, script, x -> x.addInvariant(9, 1));
+    Look.refused("addInvariant", STATE, script, x -> x.addInvariant(1, 1));
+    Look.refused("areAlike", INDEX, script, x -> x.areAlike(0, 3));
+  }
+
+  private static void refusedWhileSearching() {
+    Look.Script script = TermsOfSearchTest::full;
+    Look.Script none = () -> Make.chains(2, 2);
+    Look.refused("begin", ARGUMENT, script, x -> x.begin('x'));
+    Look.refused("begin", UnsupportedOperationException.class, TermsOfSearchTest::watched,
+        x -> x.begin('s'));
+    Look.refused("search", STATE, none, x -> x.search(1));
+    Look.refused("search", ARGUMENT, script, x -> x.search(501));
+    Look.refused("verdict", STATE, none, Statewarden::verdict);
+    Look.refused("states", STATE, none, Statewarden::states);
+    Look.refused("goneOn", STATE, none, Statewarden::goneOn);
+    Look.refused("codeOf", STATE, none, x -> x.codeOf(0));
+    Look.refused("codeOf", INDEX, script, x -> x.codeOf(-1));
+    Look.refused("moves", STATE, none, x -> x.moves(0));
+    Look.refused("moves", INDEX, script, x -> x.moves(-1));
+    Look.refused("reached", STATE, none, x -> x.reached(0, 0));
+    Look.refused("reached", INDEX, script, x -> x.reached(-1, 0));
+    Look.refused("reached", NONE, script, x -> x.reached(0, -1));
+    Look.refused("variableIn", STATE, none, x -> x.variableIn(0, 0));
+    Look.refused("variableIn", INDEX, script, x -> x.variableIn(-1, 0));
+    Look.refused("variableIn", ARGUMENT, script, x -> x.variableIn(0, -1));
+    Look.refused("made", STATE, none, Statewarden::made);
+    Look.refused("meanMoves", STATE, none, Statewarden::meanMoves);
+    Look.refused("newShare", STATE, none, Statewarden::newShare);
+    Look.refused("newShare", ArithmeticException.class, () -> {
+      Statewarden x = Make.chains(2, 2);
+      x.begin('s');
+      return x;
+    }, Statewarden::newShare);
+  }
+
+  private static void refusedOfFaultsAndRuns() {
+    Look.Script script = TermsOfSearchTest::full;
+    Look.Script none = () -> Make.chains(2, 2);
+    Look.Call[] faults = {Statewarden::fault, Statewarden::traceLength, x -> x.traceProcess(0),
+      x -> x.traceStep(0), Statewarden::replays};
+    for (Look.Call call : faults) {
+      Look.refused("without a search", STATE, none, call);
+      Look.refused("without a fault", NONE, script, call);
+    }
+    Look.refused("traceProcess", INDEX, TermsOfSearchTest::stuck, x -> x.traceProcess(6));
+    Look.refused("traceStep", INDEX, TermsOfSearchTest::stuck, x -> x.traceStep(-1));
+    Look.Call[] runs = {x -> x.recurs(0, 0, true), x -> x.recursByTaking(0, 0),
+      x -> x.comes(0, 0, false), x -> x.follows(0, 0, 1, 0, true), x -> x.distance(0, 0),
+      Statewarden::components};
+    for (Look.Call call : runs) {
+      Look.refused("without a search", STATE, none, call);
+      Look.refused("on its way", STATE, script, call);
+      Look.refused("with a fault", STATE, TermsOfSearchTest::stuck, call);
+    }
+    Look.Call[] wrong = {x -> x.recurs(9, 0, true), x -> x.recursByTaking(0, 4),
+      x -> x.comes(-1, 0, false), x -> x.follows(0, 0, 9, 0, true), x -> x.distance(0, -1)};
+    for (Look.Call call : wrong) {
+      Look.refused("of all runs", ARGUMENT, TermsOfSearchTest::ended, call);
+    }
+    Look.refused("distance", NONE, TermsOfSearchTest::ended, x -> x.distance(0, 1));
+  }
+
+  private static void orderWithoutSearch() {
+    Statewarden x = full();
+    x.setStart(0, 0);
+    Check.fails("addStep", INDEX, () -> x.addStep(3, 12, 0, 'k', 0, 0));
+    Check.fails("addStep", ARGUMENT, () -> x.addStep(0, 12, 0, 'k', 0, 0));
+    Check.fails("addChannel", ARGUMENT, () -> x.addChannel(3));
+    Check.fails("setMarks", INDEX, () -> x.setMarks(3, 12, false, false));
+    Check.fails("addInvariant", ARGUMENT, () -> x.addInvariant(0, 4));
+    Check.fails("search", STATE, () -> x.search(0));
+    Check.fails("codeOf", STATE, () -> x.codeOf(-1));
+    Check.fails("moves", STATE, () -> x.moves(-1));
+    Check.fails("reached", STATE, () -> x.reached(-1, -1));
+    Check.fails("variableIn", STATE, () -> x.variableIn(-1, 9));
+    Check.fails("fault", STATE, x::fault);
+    Check.fails("traceLength", STATE, x::traceLength);
+    Check.fails("traceProcess", STATE, () -> x.traceProcess(-1));
+    Check.fails("traceStep", STATE, () -> x.traceStep(-1));
+    Check.fails("replays", STATE, x::replays);
+    Check.fails("newShare", STATE, x::newShare);
+    wrongOfAllRuns(x);
+  }
+
+  private static void wrongOfAllRuns(Statewarden x) {
+    Check.fails("recurs", ARGUMENT, () -> x.recurs(9, 0, true));
+    Check.fails("recursByTaking", ARGUMENT, () -> x.recursByTaking(0, -1));
+    Check.fails("comes", ARGUMENT, () -> x.comes(-1, 0, true));
+    Check.fails("follows", ARGUMENT, () -> x.follows(0, 0, 0, 4, true));
+    Check.fails("distance", ARGUMENT, () -> x.distance(0, 4));
+  }
+
+  private static void orderWithSearch() {
+    Statewarden x = full();
+    Check.fails("reached", INDEX, () -> x.reached(-1, -1));
+    Check.fails("variableIn", INDEX, () -> x.variableIn(-1, 9));
+    Check.fails("traceProcess", NONE, () -> x.traceProcess(-1));
+    Check.fails("traceStep", NONE, () -> x.traceStep(-1));
+    wrongOfAllRuns(x);
+    Check.fails("distance", STATE, () -> x.distance(0, 2));
+    Statewarden y = watched();
+    Check.fails("begin", ARGUMENT, () -> y.begin('S'));
   }
 }

@@ -2,8 +2,8 @@
 final class Make {
   static final char[] MODES = {'a', 'p', 's', 'h'};
   static final char[] KINDS = {'k', 's', 'i', '=', '!', 'w', 'r', 'a'};
-  /** The least and greatest numbers that are refused where 0 to 3, 8 or 11 are due. */
-  static final int[] FAR = {Integer.MIN_VALUE, Integer.MAX_VALUE};
+  /** A start for each variable, so that a variable is not easily taken for another one. */
+  static final int[] STARTS = {1, 2, 3, 0, 2, 3, 1, 0, 3};
 
   private Make() {}
 
