@@ -297,6 +297,14 @@ public final class Promises24To29Test {
       y.addStep(0, 1, 3, 'k', 0, 0);
       searched(y);
       Check.same("on one run alone", y.follows(0, 1, 1, 1, false), false);
+      Statewarden z = Make.ending(2);
+      z.addStep(0, 0, 1, 's', 0, 3);
+      z.addStep(1, 0, 0, 'k', 0, 0);
+      searched(z);
+      Check.same("it is the number", z.follows(0, 3, 1, 1, true), false);
+      z.setMarks(1, 0, true, true);
+      searched(z);
+      Check.same("in a state that is not found any more", z.follows(0, 3, 1, 1, true), true);
     });
     Sentences.test(VARIABLE, () -> allVariables(true, (x, v, n) -> x.follows(v, n, 8, 0, false)));
     Sentences.test(VALUE, () -> allVariables(true, (x, v, n) -> x.follows(v, n, 0, 3, true)));
